@@ -413,6 +413,7 @@ public final class BrokerTest {
         Check.noState("park(0, 7), beyond the next one", quay, () -> quay.park(0, 7));
         Check.noState("park(2, 5), where the lower one stands", quay, () -> quay.park(2, 5));
         Check.noState("park(2, 3), below the lower one", quay, () -> quay.park(2, 3));
+        Check.noState("park(2, 15), where the highest one stands", quay, () -> quay.park(2, 15));
         Check.noState("park(3, 10)", quay, () -> quay.park(3, 10));
         quay.silence(0, true);
         Check.noState("park(0, 1) of a silent one", quay, () -> quay.park(0, 1));

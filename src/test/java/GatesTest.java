@@ -10,6 +10,7 @@ public final class GatesTest {
         promise13SlotsOfEachGateAndHour();
         promise13BoxesAboveAndBelow();
         promise13BoxesOfOtherStacksDoNotCount();
+        promise13FirstBoxUppermost();
         promise13OnlyInAStack();
         promise13ABoxThatLeftHasNoSlot();
         promise13HourRange();
@@ -70,6 +71,21 @@ public final class GatesTest {
         quay.book(0, 2, 1);
         Check.same("book of a lowest one, another stack's boxes above not booked", quay.book(0, 1, other), 1);
         Check.same("book under one of an earlier hour", quay.book(1, 3, 0), 1);
+    }
+
+    /** The first box that was made may stand above later ones. */
+    private static void promise13FirstBoxUppermost() {
+        QuayMesh quay = Yard.withBoxesOnApron(2);
+        Yard.carry(quay, 1, 0, 4);
+        Yard.carry(quay, 0, 0, 4);
+        Check.noState("book under box 0, not booked", quay, () -> quay.book(0, 5, 1));
+        quay.book(0, 6, 0);
+        Check.noState("book under box 0, booked for a later hour", quay, () -> quay.book(0, 5, 1));
+        quay.unbook(0);
+        quay.book(0, 4, 0);
+        quay.book(0, 5, 1);
+        quay.unbook(0);
+        Check.noState("book of box 0, above one of an earlier hour", quay, () -> quay.book(0, 6, 0));
     }
 
     private static void promise13OnlyInAStack() {

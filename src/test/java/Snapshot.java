@@ -1,4 +1,4 @@
-/** All that can be asked of a quay, as one text. */
+/** All that can be asked of a quay, as one text. It asks beyond the 512th call, which the program goes on to answer. */
 final class Snapshot {
     private Snapshot() {
     }
