@@ -12,25 +12,19 @@ public final class BrokerTest {
         promise5Send();
         promise5SendToTheLeastBusy();
         promise5SendToSilent();
-        promise5SendWrongInputs();
-        promise5MostMessages();
         promise6DeliverLift();
         promise6DeliverNotYet();
         promise6DeliverNothingToDo();
         promise6DeliverLossBeforeSilence();
         promise6DeliverUnheard();
         promise6DeliverToTruck();
-        promise6DeliverWrongInputs();
         promise8Lose();
         promise8LossesAreEachWorkersOwn();
         promise9Repeat();
         promise9RepeatGivenAway();
-        promise9RepeatNothing();
         promise10Silence();
         promise11GiveAway();
-        promise11GiveAwayWrongInputs();
         promise12Park();
-        promise12ParkWrongInputs();
         Check.end();
     }
 
@@ -82,42 +76,6 @@ public final class BrokerTest {
         Check.same("send to a silent one by its number", quay.send(LIFT, 0, 0, 2), 3);
         Check.same("send to a truck while all cranes are silent", quay.send(CARRY, 0, 0, NONE), 4);
         Check.same("queue(4)", quay.queue(4), 1);
-    }
-
-    private static void promise5SendWrongInputs() {
-        QuayMesh quay = Yard.withBoxes(1);
-        Check.noArgument("send(-1, ..)", quay, () -> quay.send(-1, 0, 0, 0));
-        Check.noArgument("send(3, ..)", quay, () -> quay.send(3, 0, 0, 0));
-        Check.noArgument("send(3, ..) of no box", quay, () -> quay.send(3, 9, 9, 9));
-        Check.noIndex("send of no box", quay, () -> quay.send(LIFT, 1, 0, 0));
-        Check.noIndex("send of box -1", quay, () -> quay.send(CARRY, -1, 0, 4));
-        Check.noIndex("LIFT to a target 1", quay, () -> quay.send(LIFT, 0, 1, 0));
-        Check.noIndex("LIFT to a target -1", quay, () -> quay.send(LIFT, 0, -1, 0));
-        Check.noIndex("CARRY to a stack 6", quay, () -> quay.send(CARRY, 0, 6, 4));
-        Check.noIndex("CARRY to a stack -1", quay, () -> quay.send(CARRY, 0, -1, 4));
-        Check.noIndex("FETCH to a gate 2", quay, () -> quay.send(FETCH, 0, 2, 4));
-        Check.noIndex("FETCH to a gate -1", quay, () -> quay.send(FETCH, 0, -1, 4));
-        Check.noIndex("LIFT by a truck", quay, () -> quay.send(LIFT, 0, 0, 4));
-        Check.noIndex("LIFT by a worker -2", quay, () -> quay.send(LIFT, 0, 0, -2));
-        Check.noIndex("CARRY by a crane", quay, () -> quay.send(CARRY, 0, 0, 3));
-        Check.noIndex("FETCH by a crane", quay, () -> quay.send(FETCH, 0, 0, 0));
-        Check.noIndex("CARRY by a worker 8", quay, () -> quay.send(CARRY, 0, 0, 8));
-        Check.noIndex("FETCH by the least worker", quay, () -> quay.send(FETCH, 0, 0, Integer.MIN_VALUE));
-        Check.same("the next message's number", quay.send(LIFT, 0, 0, 0), 0);
-    }
-
-    private static void promise5MostMessages() {
-        QuayMesh quay = Yard.withBoxes(1);
-        for (int message = 0; message < 80; message++) {
-            Check.same("message " + message, quay.send(LIFT, 0, 0, 1), message);
-        }
-        Check.same("queue(1)", quay.queue(1), 80);
-        Check.same("queued(1, 79)", quay.queued(1, 79), 79);
-        Check.noState("a message 80", quay, () -> quay.send(CARRY, 0, 0, 4));
-        Check.noState("a message 80 to NONE", quay, () -> quay.send(CARRY, 0, 0, NONE));
-        Check.noIndex("a message 80 of no box", quay, () -> quay.send(CARRY, 1, 0, 4));
-        Check.noIndex("a message 80 to no worker", quay, () -> quay.send(CARRY, 0, 0, 0));
-        Check.noArgument("a message 80 of no kind", quay, () -> quay.send(4, 0, 0, 4));
     }
 
     private static void promise6DeliverLift() {
@@ -231,15 +189,6 @@ public final class BrokerTest {
         Check.same("seen(5), which forgets the one before", quay.seen(5), first);
     }
 
-    private static void promise6DeliverWrongInputs() {
-        QuayMesh quay = Yard.withBoxes(1);
-        quay.send(LIFT, 0, 0, 0);
-        Check.noIndex("deliver(-1)", quay, () -> quay.deliver(-1));
-        Check.noIndex("deliver(8)", quay, () -> quay.deliver(8));
-        Check.noIndex("deliver(least)", quay, () -> quay.deliver(Integer.MIN_VALUE));
-        Check.noIndex("deliver(most)", quay, () -> quay.deliver(Integer.MAX_VALUE));
-    }
-
     private static void promise8Lose() {
         QuayMesh quay = Yard.withBoxes(2);
         Check.same("lose(0, 1, false)", quay.lose(0, 1, false), 1);
@@ -318,23 +267,6 @@ public final class BrokerTest {
         Check.same("moves()", quay.moves(), 1);
     }
 
-    private static void promise9RepeatNothing() {
-        QuayMesh quay = Yard.withBoxes(4);
-        Check.noIndex("repeat(-1)", quay, () -> quay.repeat(-1));
-        Check.noIndex("repeat(8)", quay, () -> quay.repeat(8));
-        for (int worker = 0; worker < 8; worker++) {
-            int each = worker;
-            Check.noState("repeat(" + worker + ")", quay, () -> quay.repeat(each));
-        }
-        quay.lose(0, 1, true);
-        quay.send(LIFT, 1, 0, 0);
-        quay.deliver(0);
-        quay.silence(0, true);
-        quay.giveAway(0, 1);
-        quay.deliver(1);
-        Check.noState("repeat(0), whose acknowledgement was lost", quay, () -> quay.repeat(0));
-    }
-
     private static void promise10Silence() {
         QuayMesh quay = Yard.withBoxes(1);
         Check.same("silence(3, true)", quay.silence(3, true), false);
@@ -376,19 +308,6 @@ public final class BrokerTest {
         Check.same("unheard()", quay.unheard(), 0);
     }
 
-    private static void promise11GiveAwayWrongInputs() {
-        QuayMesh quay = Yard.withBoxes(1);
-        quay.send(LIFT, 0, 0, 1);
-        Check.noState("giveAway(1, 0) of one that speaks", quay, () -> quay.giveAway(1, 0));
-        quay.silence(1, true);
-        Check.noState("giveAway(1, 1)", quay, () -> quay.giveAway(1, 1));
-        Check.noIndex("giveAway(1, 4)", quay, () -> quay.giveAway(1, 4));
-        Check.noIndex("giveAway(1, -1)", quay, () -> quay.giveAway(1, -1));
-        Check.noIndex("giveAway(4, 4)", quay, () -> quay.giveAway(4, 4));
-        Check.noIndex("giveAway(-1, 0)", quay, () -> quay.giveAway(-1, 0));
-        Check.noIndex("giveAway(0, 4) of one that speaks", quay, () -> quay.giveAway(0, 4));
-    }
-
     private static void promise12Park() {
         QuayMesh quay = new QuayMesh();
         Check.same("park(0, 4), next to the other", quay.park(0, 4), 0);
@@ -401,26 +320,5 @@ public final class BrokerTest {
         quay.silence(1, true);
         Check.same("park(2, 2), next to a silent one", quay.park(2, 2), 14);
         Check.same("park(3, 3)", quay.park(3, 3), 15);
-    }
-
-    private static void promise12ParkWrongInputs() {
-        QuayMesh quay = new QuayMesh();
-        Check.noIndex("park(-1, 0)", quay, () -> quay.park(-1, 0));
-        Check.noIndex("park(4, 0)", quay, () -> quay.park(4, 0));
-        Check.noIndex("park(0, -1)", quay, () -> quay.park(0, -1));
-        Check.noIndex("park(3, 16)", quay, () -> quay.park(3, 16));
-        Check.noState("park(0, 5), where the next one stands", quay, () -> quay.park(0, 5));
-        Check.noState("park(0, 7), beyond the next one", quay, () -> quay.park(0, 7));
-        Check.noState("park(2, 5), where the lower one stands", quay, () -> quay.park(2, 5));
-        Check.noState("park(2, 3), below the lower one", quay, () -> quay.park(2, 3));
-        Check.noState("park(2, 15), where the highest one stands", quay, () -> quay.park(2, 15));
-        Check.noState("park(3, 10)", quay, () -> quay.park(3, 10));
-        quay.silence(0, true);
-        Check.noState("park(0, 1) of a silent one", quay, () -> quay.park(0, 1));
-        Check.noState("park(0, 0) of a silent one", quay, () -> quay.park(0, 0));
-        Check.noIndex("park(0, 16) of a silent one", quay, () -> quay.park(0, 16));
-        Check.noState("park(1, 0), where a silent one stands", quay, () -> quay.park(1, 0));
-        quay.silence(0, false);
-        Check.same("park(0, 1) of one that speaks again", quay.park(0, 1), 0);
     }
 }

@@ -2,8 +2,14 @@
 final class Check {
     private static int passed = 0;
     private static int failed = 0;
+    private static String test = "";
 
     private Check() {
+    }
+
+    /** What fails from now on is told with the test's name. */
+    static void begin(String name) {
+        test = name.isEmpty() ? "" : name + ": ";
     }
 
     static void same(String what, long got, long due) {
@@ -19,7 +25,7 @@ final class Check {
             passed++;
         } else {
             failed++;
-            System.out.println(whatIfNot);
+            System.out.println(test + whatIfNot);
         }
     }
 
@@ -37,6 +43,12 @@ final class Check {
 
     private static void throwsAndChangesNothing(String what, QuayMesh quay, Class<?> due, Runnable call) {
         String before = Snapshot.of(quay);
+        exactly(what, due, call);
+        that(what + " changed something", before.equals(Snapshot.of(quay)));
+    }
+
+    /** The call throws that exception, no other one, not one of its kind's, and by a throw of the program. */
+    static void exactly(String what, Class<?> due, Runnable call) {
         RuntimeException thrown = null;
         try {
             call.run();
@@ -46,7 +58,6 @@ final class Check {
         String name = thrown == null ? "nothing" : thrown.getClass().getName();
         that(what + " threw " + name + ", due is " + due.getName(), thrown != null && thrown.getClass() == due);
         that(what + " was thrown by the machine or the library", thrown == null || isThrownByProgram(thrown));
-        that(what + " changed something", before.equals(Snapshot.of(quay)));
     }
 
     /** An exception of the program's own throw has the program on top of its stack. */

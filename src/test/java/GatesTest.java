@@ -11,15 +11,11 @@ public final class GatesTest {
         promise13BoxesAboveAndBelow();
         promise13BoxesOfOtherStacksDoNotCount();
         promise13FirstBoxUppermost();
-        promise13OnlyInAStack();
         promise13ABoxThatLeftHasNoSlot();
-        promise13HourRange();
-        promise13OrderOfExceptions();
         promise14Unbook();
         promise15Advance();
         promise15Missed();
         promise15BookingStaysOnATruck();
-        promise15WrongInputs();
         Check.end();
     }
 
@@ -88,21 +84,6 @@ public final class GatesTest {
         Check.noState("book of box 0, above one of an earlier hour", quay, () -> quay.book(0, 6, 0));
     }
 
-    private static void promise13OnlyInAStack() {
-        QuayMesh quay = Yard.withBoxesOnApron(1);
-        Check.noState("book of a box on the apron", quay, () -> quay.book(0, 0, 0));
-        int onShip = quay.box(0, 7);
-        Check.noState("book of a box on its ship", quay, () -> quay.book(0, 0, onShip));
-        quay.send(QuayMesh.CARRY, 0, 0, 4);
-        quay.deliver(4);
-        quay.act(4);
-        Check.noState("book of a box on a truck", quay, () -> quay.book(0, 0, 0));
-        quay.act(4);
-        Check.same("book of a box in a stack", quay.book(0, 0, 0), 1);
-        Yard.fetch(quay, 0, 0, 5);
-        Check.noState("book of a box that is gone", quay, () -> quay.book(0, 1, 0));
-    }
-
     private static void promise13ABoxThatLeftHasNoSlot() {
         QuayMesh quay = Yard.withBoxesInStack(3);
         quay.book(0, 0, 2);
@@ -110,29 +91,6 @@ public final class GatesTest {
         Yard.fetch(quay, 2, 0, 4);
         Check.same("bookedFor(2)", quay.bookedFor(2), NONE);
         Check.same("book in the slot of a box that is not booked any more", quay.book(0, 0, 0), 0);
-    }
-
-    private static void promise13HourRange() {
-        QuayMesh quay = Yard.withBoxesInStack(2);
-        quay.advance(10);
-        Check.noArgument("book for an hour before", quay, () -> quay.book(0, 9, 1));
-        Check.noArgument("book for 25 hours later", quay, () -> quay.book(0, 35, 1));
-        Check.noArgument("book for the least hour", quay, () -> quay.book(0, Integer.MIN_VALUE, 1));
-        Check.noArgument("book for the most hour", quay, () -> quay.book(0, Integer.MAX_VALUE, 1));
-        Check.same("book for this hour", quay.book(0, 10, 1), 1);
-        Check.same("book for 24 hours later", quay.book(0, 34, 0), 1);
-    }
-
-    private static void promise13OrderOfExceptions() {
-        QuayMesh quay = Yard.withBoxesOnApron(1);
-        Check.noIndex("book(-1, 0, 0)", quay, () -> quay.book(-1, 0, 0));
-        Check.noIndex("book(2, 0, 0)", quay, () -> quay.book(2, 0, 0));
-        Check.noIndex("book(0, 0, -1)", quay, () -> quay.book(0, 0, -1));
-        Check.noIndex("book(0, 0, 1)", quay, () -> quay.book(0, 0, 1));
-        Check.noIndex("book(2, 99, 0)", quay, () -> quay.book(2, 99, 0));
-        Check.noIndex("book(0, 99, 1)", quay, () -> quay.book(0, 99, 1));
-        Check.noArgument("book(0, 25, 0) of a box on the apron", quay, () -> quay.book(0, 25, 0));
-        Check.noState("book(0, 24, 0) of a box on the apron", quay, () -> quay.book(0, 24, 0));
     }
 
     private static void promise14Unbook() {
@@ -199,14 +157,5 @@ public final class GatesTest {
         Check.same("advance(4), missed on a truck", quay.advance(4), 1);
         Check.same("bookedFor(1)", quay.bookedFor(1), NONE);
         Check.same("act(7)", quay.act(7), QuayMesh.NOT_YET);
-    }
-
-    private static void promise15WrongInputs() {
-        QuayMesh quay = Yard.withBoxesInStack(1);
-        quay.book(0, 0, 0);
-        Check.noArgument("advance(0)", quay, () -> quay.advance(0));
-        Check.noArgument("advance(-1)", quay, () -> quay.advance(-1));
-        Check.noArgument("advance(49)", quay, () -> quay.advance(49));
-        Check.noArgument("advance(most)", quay, () -> quay.advance(Integer.MAX_VALUE));
     }
 }

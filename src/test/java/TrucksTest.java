@@ -23,7 +23,6 @@ public final class TrucksTest {
         rememberedNothingToDo();
         doneMessageKeepsWhatIsSeen();
         actLeavesQueueInOrder();
-        wrongInputs();
         Check.end();
     }
 
@@ -269,16 +268,5 @@ public final class TrucksTest {
         Check.same("queue(4)", quay.queue(4), 2);
         Check.same("queued(4, 0)", quay.queued(4, 0), second);
         Check.same("queued(4, 1)", quay.queued(4, 1), third);
-    }
-
-    private static void wrongInputs() {
-        QuayMesh quay = Yard.withBoxesOnApron(1);
-        quay.send(CARRY, 0, 0, 4);
-        quay.deliver(4);
-        Check.noIndex("act(3)", quay, () -> quay.act(3));
-        Check.noIndex("act(8)", quay, () -> quay.act(8));
-        Check.noIndex("act(-1)", quay, () -> quay.act(-1));
-        Check.noIndex("act(least)", quay, () -> quay.act(Integer.MIN_VALUE));
-        Check.noIndex("act(most)", quay, () -> quay.act(Integer.MAX_VALUE));
     }
 }

@@ -23,8 +23,6 @@ public final class ViewsTest {
         promise28IsDone();
         promise29To31Log();
         promise29To31LogByAnotherWorker();
-        boxesThatAreNot();
-        workersThatAreNot();
         Check.end();
     }
 
@@ -259,27 +257,5 @@ public final class ViewsTest {
         quay.repeat(2);
         quay.deliver(2);
         Check.same("moves(), after a repeat", quay.moves(), 1);
-    }
-
-    private static void boxesThatAreNot() {
-        QuayMesh quay = Yard.withBoxes(2);
-        int[] numbers = {-1, 2, 24, Integer.MIN_VALUE, Integer.MAX_VALUE};
-        for (int number : numbers) {
-            Check.noIndex("whereIs(" + number + ")", quay, () -> quay.whereIs(number));
-            Check.noIndex("whereByLog(" + number + ")", quay, () -> quay.whereByLog(number));
-            Check.noIndex("liftedBy(" + number + ")", quay, () -> quay.liftedBy(number));
-            Check.noIndex("bookedFor(" + number + ")", quay, () -> quay.bookedFor(number));
-        }
-    }
-
-    private static void workersThatAreNot() {
-        QuayMesh quay = new QuayMesh();
-        int[] numbers = {-1, 8, Integer.MIN_VALUE, Integer.MAX_VALUE};
-        for (int number : numbers) {
-            Check.noIndex("placeOf(" + number + ")", quay, () -> quay.placeOf(number));
-            Check.noIndex("queue(" + number + ")", quay, () -> quay.queue(number));
-            Check.noIndex("seen(" + number + ")", quay, () -> quay.seen(number));
-        }
-        Check.noIndex("placeOf(4)", quay, () -> quay.placeOf(4));
     }
 }

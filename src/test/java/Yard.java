@@ -34,6 +34,61 @@ final class Yard {
         return quay;
     }
 
+    /** One box in each of the first stacks, brought there by truck 4; 6 at most. */
+    static QuayMesh withABoxInEach(int manyStacks) {
+        QuayMesh quay = withBoxesOnApron(manyStacks);
+        for (int stack = 0; stack < manyStacks; stack++) {
+            carry(quay, stack, stack, 4);
+        }
+        return quay;
+    }
+
+    /** All 24 boxes, off ship 0, four in each stack: box 0 at the bottom of stack 0, box 23 on top of stack 5. */
+    static QuayMesh withFullStacks() {
+        QuayMesh quay = withBoxesOnApron(0);
+        for (int box = 0; box < 24; box++) {
+            quay.box(0, box % 8);
+            lift(quay, box, 0);
+            carry(quay, box, box / 4, 4);
+        }
+        return quay;
+    }
+
+    /** Ten ships have come and left. */
+    static QuayMesh withTenShipsGone() {
+        QuayMesh quay = new QuayMesh();
+        for (int ship = 0; ship < 10; ship++) {
+            quay.berth(ship, 1);
+            quay.leave(ship);
+        }
+        return quay;
+    }
+
+    /** A box on ship 0, and all 80 messages, LIFTs of it, in the queue of crane 1. */
+    static QuayMesh withMostMessages() {
+        QuayMesh quay = withBoxes(1);
+        for (int message = 0; message < 80; message++) {
+            quay.send(QuayMesh.LIFT, 0, 0, 1);
+        }
+        return quay;
+    }
+
+    /** A box on ship 0, and all cranes silent. */
+    static QuayMesh withSilentCranes() {
+        QuayMesh quay = withBoxes(1);
+        for (int crane = 0; crane < 4; crane++) {
+            quay.silence(crane, true);
+        }
+        return quay;
+    }
+
+    /** The hour is the last one, 5000. */
+    static void advanceToTheEnd(QuayMesh quay) {
+        while (quay.hour() < 5000) {
+            quay.advance(Math.min(48, 5000 - quay.hour()));
+        }
+    }
+
     static void lift(QuayMesh quay, int box, int crane) {
         quay.send(QuayMesh.LIFT, box, 0, crane);
         due(quay.deliver(crane), QuayMesh.ACKNOWLEDGED);
